@@ -12,6 +12,7 @@ public final class ForAllGame {
   private static final int MAX_PLAY = 7;
   private static final int MAX_BYTE = 127;
 
+  /** The players are told as the bit of a variable in State.breakers, and as winner() tells. */
   private static final int BUILDER = 0;
   private static final int BREAKER = 1;
 
@@ -316,7 +317,7 @@ public final class ForAllGame {
     }
     h = 31 * h + winner();
     h = 31 * h + copies();
-    h = 31 * h + proof();
+    h = 31 * h + lowestLeastProof();
     return 31 * h + saved.count;
   }
 
@@ -530,7 +531,7 @@ public final class ForAllGame {
     }
 
     private int ownerOf(int variable) {
-      return bit(breakers, variable) == 1 ? BREAKER : BUILDER;
+      return (breakers >> variable) & BREAKER;
     }
 
     private int plays() {
@@ -714,7 +715,7 @@ public final class ForAllGame {
 
   /** The text, and the order that was read from it last. */
   private static final class OrderText {
-    private static final int LITERALS_END = 'i';
+    private static final int LAST_LETTER = 'i';
 
     private final int[] bytes = new int[MAX_TEXT];
     private int length;
@@ -778,7 +779,7 @@ public final class ForAllGame {
           at++;
         }
         int letter = byteAt(at);
-        if (letter < 'a' || letter > LITERALS_END) {
+        if (letter < 'a' || letter > LAST_LETTER) {
           return fail(at);
         }
         if (isNegative) {
