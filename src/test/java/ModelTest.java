@@ -14,9 +14,12 @@ import java.util.regex.Pattern;
  */
 public final class ModelTest {
   private static final int RUNS = 1500;
-  private static final int CALLS = 200;
+  private static final int STEPS = 250;
+  /** What a game answers behind its 512th call is free, and a step makes fewer than 80 calls. */
+  private static final int CALLS = 512 - 80;
 
   private static int wrong = 0;
+  private static int calls = 0;
 
   public static void main(String[] args) {
     for (int run = 0; run < RUNS && wrong < 20; run++) {
@@ -414,6 +417,7 @@ public final class ModelTest {
   }
 
   private static void both(String name, Call model, Call real) {
+    calls++;
     due(name, outcome(model), outcome(real));
   }
 
@@ -422,8 +426,9 @@ public final class ModelTest {
     Model model = new Model();
     ForAllGame game = new ForAllGame();
     int faults = wrong;
-    for (int call = 0; call < CALLS && wrong == faults; call++) {
-      String name = "seed " + seed + ", call " + call;
+    calls = 0;
+    for (int step = 0; step < STEPS && calls < CALLS && wrong == faults; step++) {
+      String name = "seed " + seed + ", step " + step;
       int kind = random.nextInt(100);
       if (kind < 45) {
         change(name, random, model, game);
@@ -433,7 +438,7 @@ public final class ModelTest {
         writeText(name, random, model, game);
       }
       if (random.nextInt(25) == 0) {
-        due(name + ", digest", model.digest(), game.digest());
+        both(name + ", digest", model::digest, game::digest);
       }
     }
   }
@@ -612,9 +617,11 @@ public final class ModelTest {
 
   private static void writeText(String at, Random random, Model m, ForAllGame g) {
     if (random.nextInt(2) == 0) {
-      int length = m.text.length();
-      m.text = "";
-      due(at + ", clearText()", length, g.clearText());
+      both(at + ", clearText()", () -> {
+        int length = m.text.length();
+        m.text = "";
+        return length;
+      }, g::clearText);
     }
     StringBuilder text = new StringBuilder();
     int orders = random.nextInt(6);
