@@ -9,6 +9,7 @@ import java.util.ArrayList;
 import java.util.Arrays;
 import java.util.List;
 import java.util.TreeSet;
+import java.util.regex.Matcher;
 import java.util.regex.Pattern;
 
 /** The public face, member by member, and the rules of the language that a text search can see. */
@@ -42,13 +43,19 @@ public final class FaceTest {
       "int undo() IllegalStateException",
       "long digest()");
 
+  private static final Pattern METHOD_HEAD =
+      Pattern.compile("( +)(?:public|private) [^=;]*\\([^;]*$");
+
   private static int wrong = 0;
 
   public static void main(String[] args) throws IOException {
     face();
     nothingElseIsVisible();
+    classes();
     Path source = Path.of("src/main/java/ForAllGame.java");
-    language(Files.readAllLines(source));
+    List<String> lines = Files.readAllLines(source);
+    language(lines);
+    methodsAreShort(lines);
     System.out.println(wrong == 0 ? "the face is as due" : wrong + " faults");
     if (wrong != 0) {
       System.exit(1);
@@ -112,6 +119,58 @@ public final class FaceTest {
         due(!names.contains(method.getName()), "a method inside " + method);
       }
     }
+  }
+
+  private static List<Class<?>> allClasses() {
+    List<Class<?>> all = new ArrayList<>(List.of(ForAllGame.class.getDeclaredClasses()));
+    all.add(ForAllGame.class);
+    return all;
+  }
+
+  /**
+   * What rules 3, 5 and 11 say of classes, fields and parameters. Of the types that rule 3 leaves,
+   * just those are let pass that this class has.
+   */
+  private static void classes() {
+    due(allClasses().size() <= 12, "there are too many classes");
+    for (Class<?> one : allClasses()) {
+      due(one.getDeclaredClasses().length == 0 || one == ForAllGame.class, "a class in " + one);
+      int fields = 0;
+      for (Field field : one.getDeclaredFields()) {
+        boolean isStatic = Modifier.isStatic(field.getModifiers());
+        fields += isStatic ? 0 : 1;
+        due(!isStatic || Modifier.isFinal(field.getModifiers()), "a static field " + field);
+        due(isAllowed(field.getType()), "the type of the field " + field);
+      }
+      due(fields <= 20, "the fields of " + one);
+      for (Method method : one.getDeclaredMethods()) {
+        due(method.getParameterCount() <= 7, "the parameters of " + method);
+        due(isAllowed(method.getReturnType()), "what is returned by " + method);
+        for (Class<?> type : method.getParameterTypes()) {
+          due(isAllowed(type), "the type of a parameter of " + method);
+        }
+      }
+    }
+  }
+
+  private static boolean isAllowed(Class<?> type) {
+    boolean isRow = type.isArray() && !type.getComponentType().isArray();
+    Class<?> element = isRow ? type.getComponentType() : type;
+    return element.isPrimitive() || element == String.class || allClasses().contains(element);
+  }
+
+  /** Rule 11: a method ends with a brace that stands as far in as its first line begins. */
+  private static void methodsAreShort(List<String> lines) {
+    int methods = 0;
+    for (int first = 0; first < lines.size(); first++) {
+      Matcher head = METHOD_HEAD.matcher(lines.get(first));
+      if (head.lookingAt()) {
+        methods++;
+        int last = lines.subList(first, lines.size()).indexOf(head.group(1) + "}");
+        due(last >= 0 && last < 60, "a long method begins at line " + (first + 1));
+      }
+    }
+    due(methods > METHODS.size(), "just " + methods + " methods are found");
   }
 
   /** What rules 3 to 6, 10 and 12 leave out, as far as words tell it. */
